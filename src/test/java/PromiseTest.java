@@ -78,6 +78,10 @@ public final class PromiseTest {
         due("back", x.back(1), 199);
         due("feed beyond 200, in part", x.feed(-1, -1, -1, -1, -1), NONE);
         due("bytes", x.count(5), 199);
+        due("back", x.back(18), 181);
+        due("one beyond 200", x.feed(-1, -1, -1, -1, -1), NONE);
+        due("back", x.back(1), 180);
+        due("200", x.feed(0x20202020, 0x20202020, 0x20202020, 0x20202020, 0x20202020), 200);
         due("nothing came", x.text(), 1);
         promise(3);
         due("feed", x.feed(-1, -1, -1, -1, -1), 20);
@@ -110,6 +114,7 @@ public final class PromiseTest {
         due("0s ahead", answer("cyclic 02;cyclic 03;set 05;"), 6);
         due("three digits", answer("cyclic 002;"), -4 - 7);
         due("a word's end", answer("cyclics 2;"), -4);
+        due("a word's beginning", answer("xyclic 2;"), -4);
         due("half a word", answer(" cycl"), -4 - 1);
         due("no blank", answer("cyclic2;"), -4 - 6);
         due("a line end", answer("cyclic\n2\n;"), 2);
@@ -441,6 +446,9 @@ public final class PromiseTest {
         due("x", x.triple(bits(2, 3, 5), 0), 2);
         due("y", x.triple(bits(2, 3, 5), 1), 3);
         due("their product", x.triple(bits(2, 3, 5), 2), 5);
+        due("0 and 0 come first, x", x.triple(255, 0), 0);
+        due("0 and 0 come first, y", x.triple(255, 1), 0);
+        due("y is 0", x.triple(bits(0, 5), 2), 0);
         due("free", x.triple(bits(1), 1), -2);
         due("another what", x.triple(bits(1), 3), NONE);
         due("another what", x.triple(bits(1), -1), NONE);
@@ -534,6 +542,7 @@ public final class PromiseTest {
         due("greatest", x.greatest(), 2);
         due("half", Check.told("dihedral 8;").greatest(), 8);
         due("of 7", Check.told("cyclic 7;").greatest(), 2);
+        due("of 1", new SumFreeSets().greatest(), 0);
         promise(43);
         due("above", x.within(bits(1), true), 2);
         due("within", x.within(bits(1, 2), false), 3);
@@ -551,6 +560,7 @@ public final class PromiseTest {
         due("third", x.nth(0, 1, 2), 8);
         due("not so many", x.nth(0, 1, 3), -2);
         due("not so many", x.nth(0, 1, MAX), -2);
+        due("the empty one", x.nth(0, 0, 0), 0);
         due("full ones", x.nth(1, 1, 0), 4);
         due("complete ones", x.nth(2, 2, 0), 10);
         due("no complete one", x.nth(2, 1, 0), -2);
@@ -570,6 +580,8 @@ public final class PromiseTest {
         due("full", x.nearest(bits(0, 2), 1, 1), 4);
         due("complete", x.nearest(bits(0, 2), 2, 0), 4);
         due("itself", x.nearest(10, 2, 0), 0);
+        due("the empty one", x.nearest(1, 0, 1), 0);
+        due("all are unlike", Check.told("cyclic 16;").nearest(0x5555, 2, 0) > 0, true);
         due("none", Check.told("cyclic 3;").nearest(0, 2, 0), -2);
         due("none", Check.told("cyclic 3;").nearest(0, 2, 1), -2);
         due("another what", Check.told("cyclic 3;").nearest(0, 2, 2), NONE);
@@ -611,6 +623,7 @@ public final class PromiseTest {
         due("usual", x.usual(0), 1);
         due("of several the least", x.usual(1), 1);
         due("complete", x.usual(2), 2);
+        due("n is 1", new SumFreeSets().usual(0), 0);
         due("none", Check.told("cyclic 3;").usual(2), -2);
         due("another kind", x.usual(3), NONE);
         due("another kind", x.usual(-1), NONE);
@@ -622,6 +635,8 @@ public final class PromiseTest {
         due("empty", x.parts(0), 0);
         due("free", x.parts(bits(1, 3)), 1);
         due("two", x.parts(bits(1, 2)), 2);
+        due("two, with gaps", x.parts(bits(2, 4)), 2);
+        due("three", x.parts(bits(1, 2, 3, 4, 5)), 3);
         due("0", x.parts(bits(0, 1)), -2);
         due("out of bounds", x.parts(256), NONE);
         due("out of bounds", x.parts(257), NONE);
@@ -641,6 +656,11 @@ public final class PromiseTest {
         due("3", x.colour(3), 1);
         due("4", x.colour(4), 0);
         due("0", x.colour(0), -2);
+        SumFreeSets six = Check.told(TRIANGLE);
+        int[] colours = {-2, 0, 1, 0, 1, 2};
+        for (int e = 0; e < 6; e++) {
+            due("of a triangle's " + e, six.colour(e), colours[e]);
+        }
         due("no such", x.colour(5), NONE);
         due("no such", x.colour(-1), NONE);
     }
@@ -693,6 +713,7 @@ public final class PromiseTest {
         due("of the triangle's", Check.told(TRIANGLE).characters(6), 2);
         promise(56);
         // by 1, then by 4: (0,0) (0,2) (1,0) (1,2) (2,0) ..
+        due("(0,0) of 7", x.character(4, 0, 7), 0);
         due("(0,2) of 4", x.character(4, 1, 4), 2);
         due("(0,2) of 3", x.character(4, 1, 3), 0);
         due("(1,2) of 7", x.character(4, 3, 7), 3 + 2 - 4);
@@ -780,6 +801,8 @@ public final class PromiseTest {
         due("last", x.report(25), ';');
         due("below", x.report(-2), NONE);
         due("below", x.report(MIN), NONE);
+        x = Check.told("cyclic 10;set 0 1 2 3 4 5 6 7 8 9;");
+        CHECK.due("three digits", Check.reported(x), "size 10;triples 100;");
         x = Check.told("cyclic 3;set 1;");
         CHECK.due("not complete", Check.reported(x), "size 1;free;full;");
         CHECK.due("n is 1", Check.reported(new SumFreeSets()), "size 0;free;full;");

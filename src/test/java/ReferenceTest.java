@@ -16,7 +16,19 @@ public final class ReferenceTest {
     private ReferenceTest(Plain plain, int seed) {
         this.plain = plain;
         this.random = new Random(seed);
-        x = Check.told(plain.text);
+        x = Check.told(plain.text.startsWith("q") ? "cyclic 7;" : "quaternion;cyclic 2;");
+        askKept();
+        Check.tell(x, plain.text);
+    }
+
+    /** Asks all that may be kept for a group, so that nothing of it must be left behind the next text. */
+    private void askKept() {
+        x.subgroups();
+        x.many(0, NONE);
+        x.classes();
+        x.turns();
+        x.orbits(0, 2);
+        x.lifted(1);
     }
 
     public static void main(String[] args) {
