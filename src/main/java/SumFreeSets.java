@@ -954,7 +954,7 @@ public final class SumFreeSets {
         private final int[] table = new int[MOST_ELEMENTS * MOST_ELEMENTS];
         private final int[] inverses = new int[MOST_ELEMENTS];
         private final int[] spanned = new int[MOST_ELEMENTS];
-        private final int[] found = new int[MOST_SUBGROUPS];
+        private final int[] subgroupRow = new int[MOST_SUBGROUPS];
         private int factors;
         private int size;
         private int all;
@@ -1130,11 +1130,11 @@ public final class SumFreeSets {
 
         int countSubgroups() {
             if (subgroupCount == NONE) {
-                found[0] = 1;
+                subgroupRow[0] = 1;
                 subgroupCount = 1;
                 for (int i = 0; i < subgroupCount && i < MOST_SUBGROUPS; i++) {
                     for (int e = 0; e < size; e++) {
-                        addSubgroup(spanOf(found[i] | 1 << e));
+                        addSubgroup(spanOf(subgroupRow[i] | 1 << e));
                     }
                 }
             }
@@ -1143,12 +1143,12 @@ public final class SumFreeSets {
 
         private void addSubgroup(int set) {
             for (int i = 0; i < subgroupCount; i++) {
-                if (found[i] == set) {
+                if (subgroupRow[i] == set) {
                     return;
                 }
             }
             if (subgroupCount < MOST_SUBGROUPS) {
-                found[subgroupCount++] = set;
+                subgroupRow[subgroupCount++] = set;
             }
         }
 
