@@ -6,7 +6,9 @@ import java.util.Random;
 
 /** Long rows of acts, each compared with a state of which whole copies are kept to undo to. */
 public final class ActsTest {
-    private static final int CALLS = 500;
+    // each is followed by nine calls more, and an object is used for at most 512
+    private static final int ACTS = 45;
+    private static final int ROUNDS = 3;
     private static final int NONE = SumFreeSets.NONE;
 
     private final Check check = new Check();
@@ -25,19 +27,27 @@ public final class ActsTest {
         state = new int[plain.n + 4];
         Arrays.fill(state, 0, plain.n, 1);
         setPlace = plain.n + 3;
-        plain.listKinds();
     }
 
     public static void main(String[] args) {
         List<List<String>> rows = Plain.allFactors();
-        boolean right = rows.stream().parallel().allMatch(row -> new ActsTest(new Plain(row), row.hashCode()).run());
+        boolean right = rows.stream().parallel().allMatch(row -> rounds(new Plain(row), row.hashCode()));
         Check all = new Check();
         all.due("all rows of acts are as due", right, true);
         all.end();
     }
 
+    private static boolean rounds(Plain plain, int seed) {
+        plain.listKinds();
+        boolean right = true;
+        for (int round = 0; round < ROUNDS; round++) {
+            right &= new ActsTest(plain, seed + round).run();
+        }
+        return right;
+    }
+
     private boolean run() {
-        for (int i = 0; i < CALLS / 4 && check.isRightSoFar(); i++) {
+        for (int i = 0; i < ACTS && check.isRightSoFar(); i++) {
             check.about(plain.text + " act " + i + " at set " + state[setPlace]);
             if (random.nextInt(4) == 0) {
                 undo();

@@ -30,6 +30,10 @@ final class Check {
         due(call + " \"" + got + "\" (due \"" + want + "\")", got.equals(want), true);
     }
 
+    int asked() {
+        return asked;
+    }
+
     boolean isRightSoFar() {
         return wrong == 0;
     }

@@ -10,7 +10,7 @@ public final class ReferenceTest {
 
     private final Check check = new Check();
     private final Plain plain;
-    private final SumFreeSets x;
+    private SumFreeSets x;
     private final Random random;
 
     private ReferenceTest(Plain plain, int seed) {
@@ -19,6 +19,11 @@ public final class ReferenceTest {
         x = Check.told(plain.text.startsWith("q") ? "cyclic 7;" : "quaternion;cyclic 2;");
         askKept();
         Check.tell(x, plain.text);
+    }
+
+    /** An object is used for at most 512 calls. */
+    private void renew() {
+        x = Check.told(plain.text);
     }
 
     /** Asks all that may be kept for a group, so that nothing of it must be left behind the next text. */
@@ -50,8 +55,12 @@ public final class ReferenceTest {
         test.compareColours();
         test.compareTurns();
         test.compareCharacters();
-        for (int set : test.picked()) {
-            test.compareSet(set);
+        List<Integer> picked = test.picked();
+        for (int i = 0; i < picked.size(); i++) {
+            if (i % 2 == 0) {
+                test.renew();
+            }
+            test.compareSet(picked.get(i));
         }
         return test.check.isRight();
     }
@@ -115,6 +124,9 @@ public final class ReferenceTest {
             int most = 0;
             for (int k = 0; k <= plain.n + 1; k++) {
                 List<Integer> row = plain.ofKind(kind, k);
+                if (k % 6 == 0) {
+                    renew();
+                }
                 check.due("many(" + kind + ", " + k + ")", x.many(kind, k), row.size());
                 compareListed(kind, k, row);
                 elements += k * row.size();
@@ -168,6 +180,7 @@ public final class ReferenceTest {
 
     private void compareCharacters() {
         for (int m = 1; m <= 16; m++) {
+            renew();
             List<int[]> characters = plain.characters(m);
             check.due("characters(" + m + ")", x.characters(m), characters.size());
             int lifted = 0;
