@@ -110,8 +110,8 @@ public final class BoundsOfActsTest {
         SAYS.promise(6, "NONE: out of bounds, it is so.");
         for (String text : new String[] {"", "set 0;", FIVE + "set 1 2;", "cyclic 16;set 15;"}) {
             int over = 1 << told(text).count(0);
-            SAYS.refuses(text, (x, set) -> x.become(set), -1, -2, MIN, MIN | 1, over, over | 1, over + over - 1, over << 1,
-                1 << 30, MAX);
+            SAYS.refuses(text, (x, set) -> x.become(set), -1, -2, MIN, MIN | 1, over, over | 1,
+                over + over - 1, over << 1, 1 << 30, MAX);
         }
         SAYS.refused("become(0)", new SumFreeSets(), (x, v) -> x.become(0));
         SAYS.refused("become(6)", told(FIVE + "set 1 2;"), (x, v) -> x.become(6));
@@ -171,6 +171,11 @@ public final class BoundsOfActsTest {
         // a TRIPLE of x, y and that of y, x are two
         due("both orders", x.thin(), 2);
         isOneAct(x, bits(1, 2, 4, 5), bits(2, 5), 1);
+        x = told("cyclic 7;set 1 2 4;");
+        x.usual(0);
+        x.copies(bits(6));
+        due("whatever was asked ahead", x.thin(), 2);
+        isOneAct(x, bits(1, 2, 4), bits(4), 1);
         x = told(TRIANGLE + "set 0 1 2 3 4 5;");
         // 0 is in 16, then 3, 4, 5 in 12, then 4, 5 in 6, then 1, 2 in both that are left
         due("all of a triangle's", x.thin(), 4);
@@ -242,8 +247,8 @@ public final class BoundsOfActsTest {
         for (boolean left : new boolean[] {true, false}) {
             for (String text : new String[] {"", "set 0;", FIVE + "set 1 2;", "cyclic 16;set 1;"}) {
                 int n = told(text).count(0);
-                SAYS.refuses(text, (x, g) -> x.shift(g, left), -1, -32, -31, MIN, MAX, n, n + 1, 16, 17, 31, 32, 33, n + 32,
-                    0);
+                SAYS.refuses(text, (x, g) -> x.shift(g, left), -1, -32, -31, MIN, MAX, n, n + 1, 16, 17, 31,
+                    32, 33, n + 32, 0);
             }
             SAYS.refused("of none", told(FIVE), (x, v) -> x.shift(3, left));
             SAYS.refused("of all", told("cyclic 3;set 0 1 2;"), (x, v) -> x.shift(2, left));
@@ -327,7 +332,8 @@ public final class BoundsOfActsTest {
         SAYS.promise(12, "NONE: no such ELEMENT, out of bounds, it is so.");
         for (String text : new String[] {"", FIVE, "cyclic 16;"}) {
             int n = told(text).count(0);
-            SAYS.refuses(text, (x, e) -> x.weigh(e, 2), -1, -32, -31, MIN, MAX, n, n + 1, 16, 17, 18, 19, 20, 32, 33, n + 32);
+            SAYS.refuses(text, (x, e) -> x.weigh(e, 2), -1, -32, -31, MIN, MAX, n, n + 1, 16, 17, 18, 19, 20,
+                32, 33, n + 32);
             SAYS.refuses(text, (x, weight) -> x.weigh(0, weight), -1, -2, MIN, 10, 11, 16, 256, MAX, 1);
             SAYS.refuses(text, (x, weight) -> x.weigh(n - 1, weight), -1, 10, 1);
         }
@@ -581,8 +587,8 @@ public final class BoundsOfActsTest {
         int[] more = {
             x.energy(v), x.many(v, v), x.greatest(), x.nth(v, 1, v), x.within(v, true), x.nearest(v, 1, 1), x.best(v),
             x.mean(v, true), x.usual(v), x.parts(v), x.classes(), x.colour(v), x.turns(), x.image(v), x.orbit(v),
-            x.orbits(v, 2), x.characters(v), x.character(v, 0, v), x.lift(v, 0, 1), x.middle(v), x.lifted(v), x.ints(v, v),
-            x.spell(v), x.report(v), x.count(v), x.back(0),
+            x.orbits(v, 2), x.characters(v), x.character(v, 0, v), x.lift(v, 0, 1), x.middle(v), x.lifted(v),
+            x.ints(v, v), x.spell(v), x.report(v), x.count(v), x.back(0),
         };
         SAYS.due("all were asked", answers.length + more.length, 49);
     }

@@ -154,7 +154,8 @@ public final class BoundsOfCountsTest {
     }
 
     private static void within() {
-        SAYS.promise(43, "How many FREE SETS hold all of a SET (above true), lie within it (above false). NONE: out of bounds.");
+        SAYS.promise(43, "How many FREE SETS hold all of a SET (above true), lie within it (above false). "
+            + "NONE: out of bounds.");
         SAYS.setOutOfBounds((x, set) -> x.within(set, true));
         SAYS.setOutOfBounds((x, set) -> x.within(set, false));
         SumFreeSets x = told("cyclic 4;");
@@ -308,6 +309,12 @@ public final class BoundsOfCountsTest {
         due("dihedral 2: one or two", told("dihedral 2;").usual(0), 1);
         due("dihedral 2, FULL", told("dihedral 2;").usual(1), 2);
         due("n is 5, COMPLETE", told("cyclic 5;").usual(2), 2);
+        SumFreeSets x = told("cyclic 4;");
+        for (int round = 0; round < 2; round++) {
+            due("one behind the other, FREE", x.usual(0), 1);
+            due("one behind the other, COMPLETE", x.usual(2), 2);
+            x.copies(bits(3));
+        }
     }
 
     private static void usualOfNone() {
@@ -353,7 +360,8 @@ public final class BoundsOfCountsTest {
         for (int n = 2; n <= 16; n++) {
             SumFreeSets x = told("cyclic " + n + ";");
             due("a ring of " + n, x.classes(), rings[n - 1]);
-            due("as parts", x.parts((1 << n) - 2), x.classes());
+            due("asked again", x.classes(), rings[n - 1]);
+            due("as parts", x.parts((1 << n) - 2), rings[n - 1]);
         }
         due("four twos", told(FOUR_TWOS).classes(), 3);
         due("dihedral 1", told("dihedral 1;").classes(), 1);
@@ -373,7 +381,7 @@ public final class BoundsOfCountsTest {
         }
     }
 
-    /** ELEMENT 1 has 0, no COLOUR is left out, each COLOUR's ELEMENTS are FREE, and parts() of others change nothing. */
+    /** ELEMENT 1 has 0, no COLOUR is left out, each one's ELEMENTS are FREE, and parts() changes nothing. */
     private static void coloursOf(String text) {
         SumFreeSets x = told(text);
         int n = x.count(0);

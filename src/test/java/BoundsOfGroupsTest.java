@@ -122,7 +122,8 @@ public final class BoundsOfGroupsTest {
     }
 
     private static void quaternionSigns() {
-        SAYS.term("quaternion: 0 one, 1 i, 2 j, 3 k, 4 and that the opposite of each (i i, j j, k k are the opposite of one; "
+        SAYS.term("quaternion: 0 one, 1 i, 2 j, 3 k, 4 and that the opposite of each (i i, j j, k k are the "
+            + "opposite of one; "
             + "i j is k, j k is i, k i is j, the other way round the opposite).");
         int[][] positive = {{0, 1, 2, 3}, {1, 4, 3, 6}, {2, 7, 4, 1}, {3, 2, 5, 4}};
         int[][] table = new int[8][8];
@@ -135,7 +136,8 @@ public final class BoundsOfGroupsTest {
     }
 
     private static void severalFactors() {
-        SAYS.term("Of several FACTORS the GROUP is the row of one ELEMENT of each, PRODUCTS each by itself, its number: "
+        SAYS.term("Of several FACTORS the GROUP is the row of one ELEMENT of each, PRODUCTS each by itself, "
+            + "its number: "
             + "that of the first, and its size times that of the second, and so on.");
         SumFreeSets x = told("cyclic 2;cyclic 3;");
         due("the first wraps around, nothing is carried", x.product(1, 1), 0);
@@ -327,7 +329,8 @@ public final class BoundsOfGroupsTest {
     }
 
     private static void alikes() {
-        SAYS.promise(24, "ELEMENTS that are PRODUCTS of g, e, and the inverse of g, of any g (bits). NONE: no such ELEMENT.");
+        SAYS.promise(24, "ELEMENTS that are PRODUCTS of g, e, and the inverse of g, of any g (bits). NONE: no "
+            + "such ELEMENT.");
         SAYS.noSuchElement((x, e) -> x.alike(e));
         for (String text : new String[] {"", "cyclic 16;", "dihedral 7;", "quaternion;"}) {
             due(text + " 0", told(text).alike(0), 1);

@@ -133,7 +133,8 @@ public final class BoundsOfLettersTest {
     }
 
     private static void reports() {
-        SAYS.promise(62, "else free; and full; or (not FULL) open N; (how many ELEMENTS of open()), and complete; if it is;");
+        SAYS.promise(62, "else free; and full; or (not FULL) open N; (how many ELEMENTS of open()), and "
+            + "complete; if it is;");
         reported("", "size 0;free;full;");
         reported("cyclic 2;", "size 0;free;open 1;");
         reported("cyclic 2;set 1;", "size 1;free;full;complete;");
@@ -200,11 +201,13 @@ public final class BoundsOfLettersTest {
         due("at most 12 ACTS", x.count(4), 12);
         countsAre(new SumFreeSets(), 1, 0, 0, 0, 0, 0, 1, 0, 0, 0, 0, 1);
         SAYS.promise(63, "6: 1 all PRODUCTS are the same both ways round, else 0");
-        String[] same = {"", "cyclic 16;", "dihedral 1;", "dihedral 2;", "dihedral 2;dihedral 2;", "cyclic 3;dihedral 2;"};
+        String[] same = {"", "cyclic 16;", "dihedral 1;", "dihedral 2;", "dihedral 2;dihedral 2;",
+            "cyclic 3;dihedral 2;"};
         for (String text : same) {
             due(text, told(text).count(6), 1);
         }
-        for (String text : new String[] {"dihedral 3;", "dihedral 8;", "quaternion;", "quaternion;cyclic 2;", "cyclic 2;dihedral 3;"}) {
+        for (String text : new String[] {"dihedral 3;", "dihedral 8;", "quaternion;", "quaternion;cyclic 2;",
+            "cyclic 2;dihedral 3;"}) {
             due(text, told(text).count(6), 0);
         }
     }
@@ -239,7 +242,8 @@ public final class BoundsOfLettersTest {
     private static void countsOthers() {
         SAYS.promise(63, "NONE for others.");
         for (String text : new String[] {"", "cyclic 5;set 1 4;", "quaternion;cyclic 2;set 15;"}) {
-            SAYS.refuses(text, (x, what) -> x.count(what), -1, -2, -12, 12, 13, 14, 15, 16, 20, 32, 256, 65536, MIN, MIN + 1, MAX);
+            SAYS.refuses(text, (x, what) -> x.count(what), -1, -2, -12, 12, 13, 14, 15, 16, 20, 32, 256, 65536,
+                MIN, MIN + 1, MAX);
         }
         SumFreeSets x = told("cyclic 5;set 1 4;");
         for (int what = 0; what < 12; what++) {

@@ -110,7 +110,8 @@ public final class BoundsOfSetsTest {
     }
 
     private static void powers() {
-        SAYS.promise(27, "PRODUCTS of k (1 .. 99) ELEMENTS of a SET, one behind the other, each as often as one likes.");
+        SAYS.promise(27, "PRODUCTS of k (1 .. 99) ELEMENTS of a SET, one behind the other, each as often as "
+            + "one likes.");
         SumFreeSets x = told("cyclic 16;");
         for (int k = 1; k <= 99; k++) {
             due("of 1, " + k, x.power(bits(1), k), 1 << k % 16);
@@ -308,7 +309,8 @@ public final class BoundsOfSetsTest {
     }
 
     private static void copies() {
-        SAYS.promise(35, "How many unlike SETS there are of all PRODUCTS of g and its ELEMENTS, by all g. NONE: out of bounds.");
+        SAYS.promise(35, "How many unlike SETS there are of all PRODUCTS of g and its ELEMENTS, by all g. "
+            + "NONE: out of bounds.");
         SAYS.setOutOfBounds((x, set) -> x.copies(set));
         SumFreeSets x = told("cyclic 16;");
         due("empty", x.copies(0), 1);
@@ -348,7 +350,8 @@ public final class BoundsOfSetsTest {
     }
 
     private static void periods() {
-        SAYS.promise(37, "ELEMENTS g by which a SET stays the same (left: PRODUCTS of g and each of it): bits. NONE: out of bounds.");
+        SAYS.promise(37, "ELEMENTS g by which a SET stays the same (left: PRODUCTS of g and each of it): "
+            + "bits. NONE: out of bounds.");
         for (boolean left : new boolean[] {true, false}) {
             SAYS.setOutOfBounds((x, set) -> x.period(set, left));
             SumFreeSets x = told("cyclic 16;");

@@ -1,3 +1,5 @@
+import java.util.Arrays;
+
 /** The boundaries of the tape and of a TEXT: promises 1 to 4, and the terms that say what a TEXT is. */
 public final class BoundsOfTextsTest {
     private static final int NONE = Sentences.NONE;
@@ -8,12 +10,14 @@ public final class BoundsOfTextsTest {
 
     public static void main(String[] args) {
         aNewObject();
+        theLastCall();
         feeding();
         feedingTooMuch();
         takingBack();
         takingBackTooMuch();
         readingTheTape();
         allAnew();
+        anewOfTheSameSize();
         allElseStays();
         rows();
         cyclicBounds();
@@ -83,6 +87,22 @@ public final class BoundsOfTextsTest {
         }
     }
 
+    private static void theLastCall() {
+        SAYS.aheadOfTerms("An object is used for at most 512 calls after it has been made");
+        SumFreeSets x = new SumFreeSets();
+        for (int call = 1; call <= 512; call++) {
+            SAYS.due("call " + call, x.put(0, call % 2 == 1), true);
+        }
+        x = new SumFreeSets();
+        for (int call = 1; call <= 510; call += 3) {
+            due("call " + call, feedOne(x, 0, 's'), 20);
+            due("call " + (call + 1), x.back(19), 1);
+            due("call " + (call + 2), x.text(), -4);
+        }
+        due("call 511", x.count(5), 0);
+        due("call 512", x.text(), 1);
+    }
+
     private static void feeding() {
         SAYS.promise(2, "Twenty bytes, the highest of a first, come behind the tape: how many it has.");
         for (int place = 0; place < 20; place++) {
@@ -148,6 +168,22 @@ public final class BoundsOfTextsTest {
         x.back(7);
         feedOne(x, 0, 'x');
         due("text", x.text(), -4 - 13);
+        goneIsNotRead("cyclic 2;", 1, -4 - 8);
+        goneIsNotRead("cyclic 12;", 2, -4 - 7);
+        goneIsNotRead("cyclic 2;set;", 1, -4 - 12);
+        goneIsNotRead("cyclic 2;set;", 4, 2);
+        goneIsNotRead("cyclic 2;set 0 1;", 1, -4 - 16);
+        goneIsNotRead("cyclic 2;set 0 1;", 3, -4 - 14);
+        goneIsNotRead("quaternion;", 1, -4 - 10);
+        goneIsNotRead("quaternion;", 2, -4);
+    }
+
+    /** The last bytes of a text go, and nothing comes in their place. */
+    private static void goneIsNotRead(String text, int gone, int want) {
+        SumFreeSets x = new SumFreeSets();
+        int length = Check.feed(x, text);
+        due("back(" + gone + ") of \"" + text + "\"", x.back(gone), length - gone);
+        due("back(" + gone + ") of \"" + text + "\", text()", x.text(), want);
     }
 
     private static void takingBackTooMuch() {
@@ -217,13 +253,41 @@ public final class BoundsOfTextsTest {
         SAYS.due("spell()", Check.spelled(x), "");
     }
 
+    private static void anewOfTheSameSize() {
+        SAYS.promise(4, "is the TEXT, all anew");
+        String[] texts = {
+            "cyclic 16;", "cyclic 2;cyclic 2;cyclic 2;cyclic 2;", "quaternion;cyclic 2;", "dihedral 8;",
+            "cyclic 2;dihedral 4;",
+            "cyclic 4;cyclic 4;", "cyclic 2;cyclic 2;cyclic 2;cyclic 2;", "cyclic 16;", "", "set 0;",
+            "dihedral 8;set 15;",
+        };
+        SumFreeSets x = new SumFreeSets();
+        for (String text : texts) {
+            Check.tell(x, text);
+            SAYS.due("behind others \"" + text + "\"", answers(x), answers(Sentences.told(text)));
+        }
+    }
+
+    /** What may be kept for a GROUP. */
+    private static String answers(SumFreeSets x) {
+        int last = 1 << x.count(0) - 1;
+        int[] row = {
+            x.subgroups(), x.classes(), x.colour(x.count(0) - 1), x.turns(), x.image(last), x.orbit(last),
+            x.orbits(0, 2),
+            x.characters(4), x.character(4, 1, 1), x.lifted(4), x.many(1, NONE), x.nth(0, 2, 1), x.greatest(), x.kin(),
+            x.centre(), x.generator(1), x.best(1), x.inverse(x.count(0) - 1), x.count(1), x.count(2), x.count(10),
+        };
+        return Arrays.toString(row);
+    }
+
     private static void allElseStays() {
         SAYS.promise(4, "-4 less its FAULT, and all else stays.");
         text("x", -4);
         text(" x", -5);
         text(blanks(199) + "x", -4 - 199);
         text(blanks(190) + "cyclic 16 ", -4 - 200);
-        String[] wrong = {"x", "cyclic 2;x", "dihedral 4;set 1 2;set;", "set 0", "quaternion", "cyclic 16;set 16;", "cyclic"};
+        String[] wrong = {"x", "cyclic 2;x", "dihedral 4;set 1 2;set;", "set 0", "quaternion",
+            "cyclic 16;set 16;", "cyclic"};
         SumFreeSets x = Sentences.told("dihedral 3;set 1 3;");
         x.weigh(3, 7);
         x.keep(1);
@@ -330,6 +394,12 @@ public final class BoundsOfTextsTest {
         SAYS.term("WORDS are small letters as far as they go on");
         fault("cyclicx 2;", 0);
         fault("cycli 2;", 0);
+        fault("xyclic 2;", 0);
+        fault("xihedral 1;", 0);
+        fault("xuaternion;", 0);
+        fault("xet;", 0);
+        fault("cyclix 2;", 0);
+        fault("sex;", 0);
         fault("cyclicset 2;", 0);
         fault("cyclic 2;setset;", 9);
         fault("cyclic 2;se;", 9);
@@ -417,7 +487,8 @@ public final class BoundsOfTextsTest {
     }
 
     private static void faultsOfNumbers() {
-        SAYS.term("(of a WORD, N its first one: also an N out of bounds, of three digits or more, by which n is above 16");
+        SAYS.term("(of a WORD, N its first one: also an N out of bounds, of three digits or more, by which n "
+            + "is above 16");
         fault("cyclic 17;", 7);
         fault("cyclic   17;", 9);
         fault("cyclic 1;", 7);
@@ -484,7 +555,8 @@ public final class BoundsOfTextsTest {
     private static void faultsAtTheEnd() {
         SAYS.term("the TEXT's length, if it ends too early)");
         for (String text : new String[] {
-            "cyclic", "cyclic ", "cyclic 2", "cyclic 2 ", "cyclic 12", "dihedral", "dihedral\n", "dihedral 1", "quaternion",
+            "cyclic", "cyclic ", "cyclic 2", "cyclic 2 ", "cyclic 12", "dihedral", "dihedral\n", "dihedral 1",
+            "quaternion",
             "quaternion  ", "set", "set ", "set 0", "set 0 ", "cyclic 2;set", "cyclic 2;set 0 1", "cyclic 2;set 1 0 \n",
             "cyclic 2;quaternion", "cyclic 2;cyclic", blanks(197) + "set", blanks(192) + "cyclic 2",
         }) {

@@ -14,6 +14,7 @@ public final class BoundsOfTurnsTest {
         orbitsOfOthers();
         characters();
         characterNumbers();
+        sumsModulo();
         charactersThatAreNotThere();
         charactersOutOfBounds();
         lifts();
@@ -52,6 +53,16 @@ public final class BoundsOfTurnsTest {
         due("quaternion and 2", told("quaternion;cyclic 2;").turns(), 192);
         due("the most", told(FOUR_TWOS).turns(), 20160);
         due("4 and 4", told("cyclic 4;cyclic 4;").turns(), 96);
+        // 1 can't go to 4, though 4 has two as its order, too: 4 is 2 2
+        due("2 and 4", told("cyclic 2;cyclic 4;").turns(), 8);
+        due("4 and 2", told("cyclic 4;cyclic 2;").turns(), 8);
+        due("asked again", told("cyclic 16;").turns(), 8);
+        SAYS.term("TURNS: ways to send each ELEMENT to another (or the same) one, no two to one, so that "
+            + "PRODUCTS go to PRODUCTS.");
+        due("the same ones alone", told("cyclic 2;").turns(), 1);
+        due("the same ones, the inverses", told("cyclic 3;").turns(), 2);
+        due("any two of three", told("dihedral 2;").turns(), 6);
+        due("no two to one: not all to 0", told("dihedral 1;").turns(), 1);
     }
 
     private static void images() {
@@ -65,9 +76,11 @@ public final class BoundsOfTurnsTest {
             due(text + " all", x.image(all), all);
             due(text + " all but 0", x.image(all - 1), all - 1);
         }
-        SAYS.term("IMAGE of a SET: the least (as a number) of all SETS to which TURNS send it; ORBIT: how many these are.");
+        SAYS.term("IMAGE of a SET: the least (as a number) of all SETS to which TURNS send it; ORBIT: how "
+            + "many these are.");
         SumFreeSets x = told("cyclic 16;");
         due("15 to 1", x.image(bits(15)), bits(1));
+        due("2 to 1, of two", told("cyclic 3;").image(bits(2)), bits(1));
         due("14 to 2", x.image(bits(14)), bits(2));
         due("8 stays", x.image(bits(8)), bits(8));
         due("it is the least itself", x.image(bits(1)), bits(1));
@@ -135,7 +148,8 @@ public final class BoundsOfTurnsTest {
         for (int m = 1; m <= 16; m++) {
             due("of 1 into " + m, new SumFreeSets().characters(m), 1);
             due("of 16 into " + m, ring.characters(m), due[m - 1]);
-            due("of 15 into " + m, told("cyclic 15;").characters(m), m == 15 ? 15 : m % 5 == 0 ? 5 : m % 3 == 0 ? 3 : 1);
+            due("of 15 into " + m, told("cyclic 15;").characters(m),
+                m == 15 ? 15 : m % 5 == 0 ? 5 : m % 3 == 0 ? 3 : 1);
             due("of four twos into " + m, told(FOUR_TWOS).characters(m), m % 2 == 0 ? 16 : 1);
             due("of quaternions into " + m, told("quaternion;").characters(m), m % 2 == 0 ? 4 : 1);
         }
@@ -163,6 +177,35 @@ public final class BoundsOfTurnsTest {
         for (int k = 0; k < 16; k++) {
             for (int i = 0; i < 4; i++) {
                 due("of GENERATOR " + i, x.character(2, k, 1 << i), k >> 3 - i & 1);
+            }
+        }
+    }
+
+    private static void sumsModulo() {
+        SAYS.term("CHARACTERS into m (1 .. 16): ways to send each ELEMENT to a number 0 .. m less 1 so that "
+            + "PRODUCTS go to sums "
+            + "modulo m");
+        for (String text : new String[] {"cyclic 8;", "dihedral 4;", "quaternion;", "cyclic 2;cyclic 3;"}) {
+            for (int m = 1; m <= 16; m++) {
+                sumsModulo(text, m);
+            }
+        }
+    }
+
+    private static void sumsModulo(String text, int m) {
+        SumFreeSets x = told(text);
+        int n = x.count(0);
+        int many = x.characters(m);
+        for (int k = 0; k < many; k++) {
+            int[] sent = new int[n];
+            for (int e = 0; e < n; e++) {
+                sent[e] = x.character(m, k, e);
+                SAYS.due(text + " 0 .. m less 1", sent[e] >= 0 && sent[e] < m, true);
+            }
+            int g = n - 1;
+            for (int e = 0; e < n; e++) {
+                due(text + " " + e + " and the last one", sent[x.product(e, g)], (sent[e] + sent[g]) % m);
+                due(text + " 1 and " + e, sent[x.product(1, e)], (sent[1] + sent[e]) % m);
             }
         }
     }
@@ -230,8 +273,8 @@ public final class BoundsOfTurnsTest {
         SAYS.onlyFrom(0, (x, k) -> x.lift(4, k, 1));
         for (int m = 1; m <= 16; m++) {
             int ring = m;
-            SAYS.refuses("cyclic 16;", (x, numbers) -> x.lift(ring, 0, numbers), 1 << m, 1 << m | 1, -1, -2, MIN, MIN | 1,
-                (2 << m) - 1, 1 << 30, MAX, -1 << m);
+            SAYS.refuses("cyclic 16;", (x, numbers) -> x.lift(ring, 0, numbers), 1 << m, 1 << m | 1, -1, -2,
+                MIN, MIN | 1, (2 << m) - 1, 1 << 30, MAX, -1 << m);
         }
     }
 
@@ -239,7 +282,8 @@ public final class BoundsOfTurnsTest {
         SAYS.promise(58, "MIDDLE of m (bits). NONE: out of bounds.");
         SAYS.onlyFromTo(1, 16, (x, m) -> x.middle(m));
         int[] due = {
-            0, bits(1), bits(2), bits(2), bits(2, 3), bits(3, 4), bits(3, 4), bits(3, 4, 5), bits(4, 5, 6), bits(4, 5, 6),
+            0, bits(1), bits(2), bits(2), bits(2, 3), bits(3, 4), bits(3, 4), bits(3, 4, 5), bits(4, 5, 6),
+                bits(4, 5, 6),
             bits(4, 5, 6, 7), bits(5, 6, 7, 8), bits(5, 6, 7, 8), bits(5, 6, 7, 8, 9), bits(6, 7, 8, 9, 10),
             bits(6, 7, 8, 9, 10),
         };

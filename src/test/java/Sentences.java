@@ -34,6 +34,11 @@ final class Sentences {
         begin("terms: " + words, "## Terms", words);
     }
 
+    /** Begins a sentence that stands ahead of the terms. */
+    void aheadOfTerms(String words) {
+        begin("ahead of the terms: " + words, "# SumFreeSets", words);
+    }
+
     void promise(int number, String words) {
         promises.add(number);
         begin("promise " + number + ": " + words, "## Promise " + number + ":", words);
